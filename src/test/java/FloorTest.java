@@ -226,9 +226,10 @@ public final class FloorTest {
             fault(text, text.length());
         }
         Object[][] wrong = {
-            {"flo", 0}, {"floors;", 0}, {"car 0 0 0;", 0}, {"hat 0;", 0}, {";", 0}, {" ;floor;", 1}, {"7;", 0},
+            {"flo", 0}, {"xloor;", 0}, {"floox;", 0}, {"zfloor;", 0}, {"afloor;", 0}, {"floorz;", 0}, {"floora;", 0}, {"floors;", 0}, {"car 0 0 0;", 0}, {"hat 0;", 0}, {";", 0}, {" ;floor;", 1}, {"7;", 0},
             {"Floor;", 0}, {"floor,", 5}, {"floor floor;", 6}, {"floor 1;", 6}, {"floor;;", 6}, {"floor; floor;", 7},
-            {"floor;5;", 6}, {"floor;cars 0 0 0;", 6}, {"floor;ca", 6}, {"floor;hats 0;", 6}, {"floor;fo 0 1;", 6},
+            {"floor;5;", 6}, {"floor;cars 0 0 0;", 6}, {"floor;ca", 6}, {"floor;carz 0 0 0;", 6}, {"floor;xar 0 0 0;", 6},
+            {"floor;xat 0;", 6}, {"floor;hax 0;", 6}, {"floor;fox 0 1;", 6}, {"floor;hats 0;", 6}, {"floor;fo 0 1;", 6},
             {"floor;car;", 9}, {"floor;car x", 10}, {"floor;car 6 0 0;", 10}, {"floor;car 0 24 0;", 12},
             {"floor;car 0 0 4;", 14}, {"floor;car 0 0 10;", 14}, {"floor;car 0 0;", 13}, {"floor;car 0 0 0 0;", 16},
             {"floor;car 000 0 0;", 10}, {"floor;car 0 0 000;", 14}, {"floor;car 0 0000 0;", 12}, {"floor;123;", 6},

@@ -39,12 +39,15 @@ public final class KeptTest {
         Check.asked(x, "image(0)", () -> x.image(0), 1);
         x.tick(7);
         x.forget();
+        x.note(0, 9, 1, 1, -1, 2, 3);
         x.hat(1);
         x.car(4, 23, 1);
         long second = x.digest();
         Check.asked(x, "image(1)", () -> x.image(1), 1);
         Check.due("from(0)", x.from(0), 1);
         Check.due("as in image 0", x.digest(), first);
+        Check.due("its note", x.is(1), 2);
+        Check.due("not the other one", x.is(0), 63);
         x.tick(5);
         x.push(0, 20, 1);
         x.note(0, 0, 0, 0, 0, 0, 0);

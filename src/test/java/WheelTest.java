@@ -6,6 +6,7 @@ public final class WheelTest {
         steer();
         steerRow();
         hunt();
+        steerBehindTicks();
         steerRefused();
         notes();
         notesRefused();
@@ -13,6 +14,7 @@ public final class WheelTest {
         look();
         twoThatRest();
         twoApart();
+        twoWithoutRest();
         twoRefused();
         bell();
         bellRefused();
@@ -58,6 +60,19 @@ public final class WheelTest {
         // Car 0 goes up to 8, 2 and turns to 3: struck in 8 at once, and from 3 in the third tick.
         steered(Check.floor("floor;car 0 14 3;car 0 9 0;"), 1, 2, 1, 1, new int[] {2, 0});
         steered(Check.floor("floor;car 0 14 3;car 0 9 0;"), 1, 3, 1, 2, new int[] {2, 3, 2});
+    }
+
+    /** What was given and struck ahead of now does not count. */
+    private static void steerBehindTicks() {
+        BumperCars x = Check.floor("floor;car 3 0 0;car 3 1 2;");
+        Check.due("they strike one another", x.tick(10), 20);
+        x.push(0, 14, 3);
+        x.push(1, 23, 0);
+        steered(x, 0, 1, 1, 0, new int[] {0});
+        // From 15 the revengeful one in 22 would strike it in 16 and in 21, not in 14.
+        steered(x, 0, 2, 0, 0, new int[] {0, 2});
+        x.push(1, 13, 2);
+        steered(x, 0, 1, 1, 1, new int[] {2});
     }
 
     private static void steerRefused() {
@@ -204,6 +219,11 @@ public final class WheelTest {
     private static void twoApart() {
         // Two apart from one another by one cell: 0 may go between and be struck, so it does not.
         pairs(Check.floor("floor;car 0 7 0;car 0 9 0;"), 0, 1, 4, 5, 6, 7, 8, 9, 10, 11, 12, 13, 14, 15);
+    }
+
+    private static void twoWithoutRest() {
+        // In 9 and 14 others strike car 0; in 16 and 21 car 1 does, if it takes the same of the two.
+        pairs(Check.floor("floor;car 2 15 0;car 2 22 1;car 4 3 1;car 2 8 0;"), 0, 1);
     }
 
     private static void twoRefused() {
