@@ -415,38 +415,18 @@ public final class BumperCars {
             return (way + 1) % WAYS;
         }
 
-        static int plain(int w, int a) {
-            return a == 1 ? rightOf(w) : w;
-        }
-
-        static int chaser(int w, int a, int h) {
-            return h == NONE ? plain(w, a) : h;
-        }
-
-        static int avoids(int w, int a) {
-            return a == 2 ? rightOf(w) : plain(w, a);
-        }
-
-        static int revenge(int w, int a, int h, int f) {
-            return f == NONE ? chaser(w, a, h) : f;
-        }
-
-        static int small(int t, int w, int a) {
-            return t % 2 == 1 ? rightOf(w) : plain(w, a);
-        }
-
-        static int tired(int t, int w, int a) {
-            return t % 3 == 0 ? w : avoids(w, a);
-        }
-
         static int takes(int kind, int t, int w, int a, int h, int f) {
+            int right = rightOf(w);
+            int plain = a == 1 ? right : w;
+            int chaser = h == NONE ? plain : h;
+            int avoids = a == 2 ? right : plain;
             switch (kind) {
-                case 0: return plain(w, a);
-                case 1: return chaser(w, a, h);
-                case 2: return avoids(w, a);
-                case 3: return revenge(w, a, h, f);
-                case 4: return small(t, w, a);
-                default: return tired(t, w, a);
+                case 0: return plain;
+                case 1: return chaser;
+                case 2: return avoids;
+                case 3: return f == NONE ? chaser : f;
+                case 4: return t % 2 == 1 ? right : plain;
+                default: return t % 3 == 0 ? w : avoids;
             }
         }
     }
@@ -916,46 +896,35 @@ public final class BumperCars {
 
         /** Goes on to the next token: from its place up to next. */
         private void advance() {
-            while (next < length && bytes[next] == ' ') {
-                next++;
-            }
+            passAll(' ', ' ');
             place = next;
             if (next >= length) {
                 token = END;
-            } else if (isLetter(next)) {
-                passWord();
-            } else if (isFigure(next)) {
-                passNumber();
+            } else if (passAll('a', 'z')) {
+                token = WORD;
+            } else if (passAll('0', '9')) {
+                takeNumber();
             } else {
                 token = bytes[next] == ';' ? STOP : OTHER;
                 next++;
             }
         }
 
-        private void passWord() {
-            while (next < length && isLetter(next)) {
+        /** Passes the run of bytes from first to last that begins here: whether there was one. */
+        private boolean passAll(char first, char last) {
+            int start = next;
+            while (next < length && bytes[next] >= first && bytes[next] <= last) {
                 next++;
             }
-            token = WORD;
+            return next > start;
         }
 
-        private void passNumber() {
-            number = 0;
-            while (next < length && isFigure(next)) {
-                if (next - place < 2) {
-                    number = number * 10 + bytes[next] - '0';
-                }
-                next++;
-            }
-            token = next - place <= 2 ? NUMBER : OTHER;
-        }
-
-        private boolean isLetter(int i) {
-            return bytes[i] >= 'a' && bytes[i] <= 'z';
-        }
-
-        private boolean isFigure(int i) {
-            return bytes[i] >= '0' && bytes[i] <= '9';
+        /** The run of figures just passed: one or two of them are a number, more are none. */
+        private void takeNumber() {
+            int last = bytes[next - 1] - '0';
+            int figures = next - place;
+            number = figures == 1 ? last : 10 * (bytes[place] - '0') + last;
+            token = figures <= 2 ? NUMBER : OTHER;
         }
     }
 
