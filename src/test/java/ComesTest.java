@@ -118,6 +118,8 @@ public final class ComesTest {
         clusterOf("floor;car 0 5 0;", 1, 1);
         clusterOf("floor;car 0 5 0;car 0 6 0;", 1, 1);
         clusterOf("floor;car 0 0 0;car 0 7 0;", 1, 1);
+        clusterOf("floor;car 0 0 0;car 0 1 0;", 2, 3);
+        clusterOf("floor;car 0 23 0;car 0 17 0;", 2, 3);
         clusterOf("floor;car 0 0 0;car 0 7 0;car 0 8 0;", 2, 6);
         clusterOf("floor;car 0 0 0;car 0 7 0;car 0 6 0;", 3, 7);
         clusterOf("floor;car 0 0 0;car 0 20 0;car 0 14 0;car 0 6 0;", 2, 9);
