@@ -10,6 +10,7 @@ public final class KeptTest {
         status();
         count();
         digest();
+        digestOfEachScene();
         Check.end();
     }
 
@@ -155,6 +156,41 @@ public final class KeptTest {
         }
         Check.refused(x, "count(6)", () -> x.count(6), BumperCars.BAD, 0);
         Check.refused(x, "count(-1)", () -> x.count(-1), BumperCars.BAD, 0);
+    }
+
+    /** Without cars and notes, and with as many as there can be. */
+    private static void digestOfEachScene() {
+        for (Scene scene : Scene.values()) {
+            BumperCars x = scene.made();
+            long h = 1301;
+            for (int what = 0; what < 6; what++) {
+                h = 31 * h + x.count(what);
+            }
+            h = 31 * h + (scene == Scene.FULL ? 2 : scene == Scene.RICH ? 0 : -1);
+            for (int k = 0; k < scene.cars; k++) {
+                for (int what = 0; what < 6; what++) {
+                    h = 31 * h + x.of(k, what);
+                }
+            }
+            for (int[] note : notesOf(scene)) {
+                for (int v : note) {
+                    h = 31 * h + v;
+                }
+            }
+            h = 31 * (31 * h + x.part(0)) + x.part(1);
+            Check.due(scene + ": digest()", x.digest(), h);
+        }
+    }
+
+    private static int[][] notesOf(Scene scene) {
+        if (scene == Scene.RICH) {
+            return new int[][] {{1, 5, 2, 0, 1, -1, 1}, {0, 4, 1, 2, -1, 3, 3}};
+        }
+        int[][] notes = new int[scene == Scene.FULL ? 6 : 0][];
+        for (int i = 0; i < notes.length; i++) {
+            notes[i] = new int[] {i % 5, i, i % 4, 0, -1, -1, i % 4};
+        }
+        return notes;
     }
 
     private static void digest() {

@@ -125,7 +125,8 @@ final class Model {
         }
     }
 
-    private static int by(int kind, int t, int w, int a, int h, int f) {
+    /** The way that a kind takes; open to the test, so that notes can be told that fit some kind. */
+    static int by(int kind, int t, int w, int a, int h, int f) {
         int right = (w + 1) % 4;
         int plain = a == 1 ? right : w;
         int avoids = a == 2 ? right : plain;

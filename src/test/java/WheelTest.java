@@ -7,6 +7,7 @@ public final class WheelTest {
         steerRow();
         hunt();
         steerBehindTicks();
+        steerAmidAll();
         steerRefused();
         notes();
         notesRefused();
@@ -17,6 +18,7 @@ public final class WheelTest {
         twoWithoutRest();
         twoRefused();
         bell();
+        bellByAllWays();
         bellRefused();
         rounds();
         roundsRefused();
@@ -73,6 +75,18 @@ public final class WheelTest {
         steered(x, 0, 2, 0, 0, new int[] {0, 2});
         x.push(1, 13, 2);
         steered(x, 0, 1, 1, 1, new int[] {2});
+    }
+
+    /** All four beside it strike it in every tick, whatever it takes: as often as anyone can be struck. */
+    private static void steerAmidAll() {
+        BumperCars x = Check.floor("floor;car 0 8 0;car 3 9 2;car 3 14 3;car 3 7 0;car 3 2 1;foe 1 0;foe 2 0;foe 3 0;foe 4 0;");
+        for (int n = 1; n <= 5; n++) {
+            steered(Check.floor("floor;car 0 7 0;car 0 9 2;"), 0, 1, 0, 0, new int[] {1});
+            steered(x, 0, n, 1, n, new int[] {0, 0, 0, 0, 0});
+            // A row of another search must not be told again.
+            steered(x, 1, n, 1, n, new int[] {2, 2, 2, 2, 2});
+            steered(x, 0, n, 0, 4 * n, new int[] {0, 0, 0, 0, 0});
+        }
     }
 
     private static void steerRefused() {
@@ -259,6 +273,25 @@ public final class WheelTest {
         Check.due("nothing to undo", x.count(4), 0);
         Check.due("no tick", x.count(1), 0);
         belled(new BumperCars(), 9, 3, 0, 1);
+    }
+
+    /** Whoever is first and whichever way they strike; and cars that do not strike in every tick. */
+    private static void bellByAllWays() {
+        String[] pairs = {"7 0;car 3 8 0;", "8 0;car 3 7 0;", "7 0;car 3 13 0;", "13 0;car 3 7 0;"};
+        for (String pair : pairs) {
+            BumperCars x = Check.floor("floor;car 3 " + pair + "foe 0 1;foe 1 0;");
+            belled(x, 1, 0, 2, 1);
+            belled(x, 3, 5, 7, 4);
+            belled(x, 9, 9, 111111111L, 500000000L);
+        }
+        // One bump, in the third tick: it must not have rung ahead of any of the three.
+        BumperCars y = Check.floor("floor;car 0 20 3;car 0 5 2;");
+        Check.due("bumps up to the second", y.bumps(2), 0);
+        Check.due("bumps up to the third", y.bumps(3), 1);
+        belled(y, 2, 3, 0, 1);
+        belled(y, 3, 3, 343, 1000);
+        belled(y, 3, 9, 1, 1000);
+        belled(y, 3, 0, 1, 1);
     }
 
     private static void bellRefused() {
