@@ -6,7 +6,7 @@
 public final class BumperCars {
     public static final int NONE = -1, BAD = -2, NO = -3, FULL = -4;
 
-    /** The answer of a refused call where BAD itself could be mistaken for an answer. */
+    /** What hat, of, at, steer and two answer in place of BAD. */
     private static final int BAD_FAR = -10;
     private static final int NOT_SO_MANY = -5;
 

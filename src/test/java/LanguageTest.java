@@ -1,4 +1,5 @@
 import java.io.IOException;
+import java.lang.reflect.Array;
 import java.lang.reflect.Constructor;
 import java.lang.reflect.Field;
 import java.lang.reflect.Method;
@@ -8,7 +9,11 @@ import java.nio.file.Path;
 import java.util.ArrayList;
 import java.util.Arrays;
 import java.util.Collections;
+import java.util.IdentityHashMap;
 import java.util.List;
+import java.util.Set;
+import java.util.regex.Matcher;
+import java.util.regex.Pattern;
 
 /** The face of the document and what of LANGUAGE.md can be seen from outside. Runs in the project's folder. */
 public final class LanguageTest {
@@ -24,6 +29,9 @@ public final class LanguageTest {
         face();
         insideClasses();
         words();
+        libraryCalls();
+        lengthOfMethods();
+        roomOfOneObject();
         Check.end();
     }
 
@@ -83,9 +91,20 @@ public final class LanguageTest {
         }
     }
 
+    private static String source() throws IOException {
+        return Files.readString(Path.of("src/main/java/BumperCars.java"));
+    }
+
+    /** The source without comments and texts, its lines kept. */
+    private static String code() throws IOException {
+        Matcher comments = Pattern.compile("(?s)/\\*.*?\\*/").matcher(source());
+        String bare = comments.replaceAll(found -> found.group().replaceAll("[^\n]", " "));
+        return bare.replaceAll("//[^\n]*", " ").replaceAll("\"[^\"]*\"", "\"\"");
+    }
+
     private static void words() throws IOException {
-        String source = Files.readString(Path.of("src/main/java/BumperCars.java"));
-        String code = source.replaceAll("(?s)/\\*.*?\\*/", " ").replaceAll("//[^\n]*", " ").replaceAll("\"[^\"]*\"", "\"\"");
+        String source = source();
+        String code = code();
         String[] none = {"throw", "throws", "try", "catch", "synchronized", "assert", "import", "package", "instanceof",
             "record", "double", "float", "protected"};
         for (String word : none) {
@@ -103,6 +122,87 @@ public final class LanguageTest {
                 boolean part = line.matches("\\s+[a-z]+\\[i\\] = new [A-Z][A-Za-z]*\\(\\);\\s*");
                 Check.that("made in a constructor: " + line.trim(), field || part);
             }
+        }
+    }
+
+    /** What is called by a class's name is of the class itself, or stands in rule 4. */
+    private static void libraryCalls() throws IOException {
+        List<String> listed = Arrays.asList("Integer.bitCount", "Math.abs", "Math.max", "Math.min", "System.arraycopy");
+        List<String> own = new ArrayList<>();
+        for (Class<?> c : BumperCars.class.getDeclaredClasses()) {
+            own.add(c.getSimpleName());
+        }
+        Matcher call = Pattern.compile("\\b([A-Z][A-Za-z]*[a-z])\\.([a-z]\\w*)").matcher(code());
+        while (call.find()) {
+            Check.that("rule 4 has " + call.group(), own.contains(call.group(1)) || listed.contains(call.group()));
+        }
+        Matcher type = Pattern.compile("\\b[A-Z][A-Za-z]*[a-z]\\b").matcher(code());
+        List<String> types = Arrays.asList("BumperCars", "Integer", "Math", "System", "String");
+        while (type.find()) {
+            Check.that("rule 3 has " + type.group(), own.contains(type.group()) || types.contains(type.group()));
+        }
+    }
+
+    /** By the braces: a method stands at 4 blanks in the class, at 8 in one inside. */
+    private static void lengthOfMethods() throws IOException {
+        String[] lines = code().split("\n");
+        int seen = 0;
+        for (int from = 0; from < lines.length; from++) {
+            Matcher head = Pattern.compile("( {4}| {8})\\w[^=;]*\\) \\{").matcher(lines[from]);
+            if (head.matches()) {
+                int to = from;
+                while (to < lines.length && !lines[to].equals(head.group(1) + "}")) {
+                    to++;
+                }
+                if (!lines[from].matches("\\s+(if|for|while|switch) .*")) {
+                    seen++;
+                    Check.that("sixty lines at most: " + lines[from].trim(), to < lines.length && to - from < 60);
+                }
+            }
+        }
+        Check.that("methods were seen: " + seen, seen > 80);
+    }
+
+    /** All calls of one run live in one room of 600,000 objects and 7.3 million fields and elements. */
+    private static void roomOfOneObject() {
+        int[] room = new int[2];
+        measure(new BumperCars(), room, Collections.newSetFromMap(new IdentityHashMap<>()));
+        Check.that("objects and arrays: " + room[0], room[0] > 200 && room[0] <= 300);
+        Check.that("fields and elements: " + room[1], room[1] > 1000 && room[1] <= 2000);
+    }
+
+    private static void measure(Object one, int[] room, Set<Object> seen) {
+        if (one == null || !seen.add(one)) {
+            return;
+        }
+        room[0]++;
+        if (one.getClass().isArray()) {
+            int size = Array.getLength(one);
+            room[1] += size;
+            for (int i = 0; i < size && !one.getClass().getComponentType().isPrimitive(); i++) {
+                measure(Array.get(one, i), room, seen);
+            }
+            return;
+        }
+        int own = 0;
+        for (Field f : one.getClass().getDeclaredFields()) {
+            if (!Modifier.isStatic(f.getModifiers())) {
+                own++;
+                if (!f.getType().isPrimitive()) {
+                    measure(valueOf(f, one), room, seen);
+                }
+            }
+        }
+        room[1] += own;
+        Check.that(one.getClass() + ": twenty fields at most", own <= 20);
+    }
+
+    private static Object valueOf(Field f, Object one) {
+        try {
+            f.setAccessible(true);
+            return f.get(one);
+        } catch (IllegalAccessException e) {
+            throw new IllegalStateException(e);
         }
     }
 }
