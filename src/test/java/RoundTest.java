@@ -3,6 +3,7 @@ import java.math.BigInteger;
 /** What goes round: the right of a WAY, its opposite, TICKS by 2 and by 3, X of ROUNDS; and the edges of THE FLOOR. */
 public final class RoundTest {
     private static final int PLAIN = 0;
+    private static final int CHASER = 1;
     private static final int AVOIDS = 2;
     private static final int SMALL = 4;
     private static final int TIRED = 5;
@@ -15,6 +16,7 @@ public final class RoundTest {
         rightOfAWayInOddTicks();
         rightOfTheWayTakenOffTheFloor();
         oppositeOfAWay();
+        oppositeOfTheWayTaken();
         ticksOfAnOddNumber();
         ticksThatLeaveNoughtByThree();
         ticksOfNotes();
@@ -122,6 +124,21 @@ public final class RoundTest {
             stands("strikes by " + c[0], x, 0, 8, c[2]);
             Check.due("given", x.of(0, 4), 1);
             Check.due("struck", x.of(1, 3), 1);
+        }
+    }
+
+    /** A chaser takes the way towards the hat, whatever its own was: it turns from the way that it took. */
+    private static void oppositeOfTheWayTaken() {
+        int[][] cases = {{0, 9, 2}, {1, 14, 3}, {2, 7, 0}, {3, 2, 1}};
+        for (int[] c : cases) {
+            for (int way = 0; way < 4; way++) {
+                BumperCars x = alone(CHASER, 8, way);
+                x.car(PLAIN, c[1], c[0]);
+                x.hat(1);
+                Check.due("takes", x.way(0), c[0]);
+                Check.due("strikes", x.tick(1), 1);
+                stands("way " + way + ", strikes by " + c[0], x, 0, 8, c[2]);
+            }
         }
     }
 
